@@ -356,7 +356,7 @@ public final class TunnelNetwork {
     }
 
     private static boolean hasMember(int set, int member) {
-        return (set >> member & 1) == 1;
+        return ((set >> member) & 1) == 1;
     }
 
     private static int codeBetween(int a, int b) {
@@ -364,7 +364,7 @@ public final class TunnelNetwork {
     }
 
     private boolean isOver(int t, int code) {
-        return (tunnelLinks[t] >> code & 1L) == 1L;
+        return ((tunnelLinks[t] >> code) & 1L) == 1L;
     }
 
     private int countPlaced() {
@@ -391,8 +391,8 @@ public final class TunnelNetwork {
         int left = linkCapacity[code];
         for (int t = 0; t < TUNNELS; t++) {
             // Not a call of isOver: calls go at most six deep.
-            boolean over = (tunnelLinks[t] >> code & 1L) == 1L;
-            if (over && t != except && tunnelPriority[t] <= priority) {
+            boolean passes = ((tunnelLinks[t] >> code) & 1L) == 1L;
+            if (passes && t != except && tunnelPriority[t] <= priority) {
                 left -= tunnelBandwidth[t];
             }
         }
@@ -584,7 +584,7 @@ public final class TunnelNetwork {
         int reached = 1 << start;
         for (int round = 1; round < NODES; round++) {
             for (int code = 0; code < CODES; code++) {
-                int both = 1 << code / NODES | 1 << code % NODES;
+                int both = (1 << (code / NODES)) | (1 << (code % NODES));
                 if (code != skipped && linkThere[code] && linkUp[code] && (reached & both) != 0) {
                     reached |= both;
                 }

@@ -56,23 +56,32 @@ public final class ModelTest {
             int terms = wild ? next(40) - 4 : 8 * next(4) + (colourful == 0 ? 0 : next(8) & next(8));
             int call = next(i < 12 ? 1 : 20);
             if (call <= 1) {
-                due(run, "link", x.link(code, cost, capacity), m.link(code, cost, capacity));
+                due(run, "link " + code + " " + cost + " " + capacity,
+                    x.link(code, cost, capacity), m.link(code, cost, capacity));
             } else if (call <= 2) {
-                due(run, "unlink", x.unlink(code), m.unlink(code));
+                due(run, "unlink " + code,
+                    x.unlink(code), m.unlink(code));
             } else if (call <= 6) {
                 int what = wild ? next(7) - 1 : next(4);
                 int value = what == 0 ? cost : what == 1 ? capacity : what == 2 ? terms % 8 : next(wild ? 4 : 2);
-                due(run, "change", x.change(code, what, value), m.change(code, what, value));
+                due(run, "change " + code + " " + what + " " + value,
+                    x.change(code, what, value), m.change(code, what, value));
             } else if (call <= 13) {
-                due(run, "want", x.want(t, ends, bandwidth, terms), m.want(t, ends, bandwidth, terms));
+                due(run, "want " + t + " " + ends + " " + bandwidth + " " + terms,
+                    x.want(t, ends, bandwidth, terms), m.want(t, ends, bandwidth, terms));
             } else if (call <= 15) {
-                due(run, "release", x.release(t), m.release(t));
+                due(run, "release " + t,
+                    x.release(t), m.release(t));
             } else if (call <= 17) {
-                due(run, "improve", x.improve(t), m.improve(t));
+                due(run, "improve " + t,
+                    x.improve(t), m.improve(t));
             } else {
-                due(run, "quote", x.quote(ends, bandwidth, terms), m.quote(ends, bandwidth, terms));
-                due(run, "widest", x.widest(ends, terms), m.widest(ends, terms));
-                due(run, "flow", x.flow(ends, terms), m.flow(ends, terms));
+                due(run, "quote " + ends + " " + bandwidth + " " + terms,
+                    x.quote(ends, bandwidth, terms), m.quote(ends, bandwidth, terms));
+                due(run, "widest " + ends + " " + terms,
+                    x.widest(ends, terms), m.widest(ends, terms));
+                due(run, "flow " + ends + " " + terms,
+                    x.flow(ends, terms), m.flow(ends, terms));
             }
             for (int question = 0; question < QUESTIONS; question++) {
                 ask(run, x, m);

@@ -68,10 +68,12 @@ public final class PromiseTest {
         bridge();
         groups();
         betterPaths();
+        longestPathAgainstOneLink();
         settlingDropsBroken();
         settlingRelievesLeastCodeFirst();
         settlingRelievesLeastUrgentFirst();
         settlingPlacesInOrder();
+        settlingPlacesUrgentOnesBeforeLesserNumbers();
         settlingGoesOnAfterPlacing();
         refusedCallsChangeNothing();
         System.out.println(wrong == 0 ? "all answers are as due" : wrong + " answers are not as due");
@@ -636,6 +638,22 @@ public final class PromiseTest {
         duePath("the first place at which they differ", x, 5, "0135");
     }
 
+    private static void longestPathAgainstOneLink() {
+        TunnelNetwork x = new TunnelNetwork();
+        x.link(code(0, 1), 1, 100);
+        x.link(code(1, 2), 1, 100);
+        x.link(code(2, 3), 1, 100);
+        x.link(code(3, 4), 1, 100);
+        x.link(code(4, 5), 1, 100);
+        x.link(code(0, 5), 6, 100);
+        x.want(0, code(0, 5), 1, 0);
+        duePath("five links for 5 rather than one for 6", x, 0, "012345");
+        due("improve finds the same", x.improve(0), 0);
+        x.change(code(0, 5), 0, 5);
+        due("one link for 5 rather than five", x.improve(0), 1);
+        duePath("one link", x, 0, "05");
+    }
+
     private static void settlingDropsBroken() {
         TunnelNetwork x = new TunnelNetwork();
         x.link(code(0, 1), 1, 10);
@@ -685,6 +703,19 @@ public final class PromiseTest {
         due("then the greatest number", x.state(3), 1);
         due("back by priority, then number", x.change(1, 1, 16), 3);
         due("2 still waits", x.state(2), 1);
+        due("the most urgent", x.want(4, 1, 9, terms(0, 0)), 1);
+        due("the most urgent alone", x.change(1, 1, 9), 1);
+        due("even the most urgent", x.change(1, 1, 8), 1);
+        due("which is idle then", x.state(4), 1);
+        due("while a lesser one fits", x.state(1), 2);
+        TunnelNetwork full = new TunnelNetwork();
+        full.link(1, 1, 8);
+        for (int t = 0; t < 8; t++) {
+            full.want(t, 1, 1, terms(t % 4, 0));
+        }
+        due("all eight", full.over(1), 8);
+        due("all eight at once", full.change(1, 1, 0), 0);
+        due("none is left", full.over(1), 0);
     }
 
     private static void settlingPlacesInOrder() {
@@ -700,6 +731,23 @@ public final class PromiseTest {
         due("the second of the next", x.state(3), 2);
         due("all of it for the most urgent", x.change(1, 1, 11), 1);
         due("placed", x.state(4), 2);
+    }
+
+    private static void settlingPlacesUrgentOnesBeforeLesserNumbers() {
+        TunnelNetwork x = new TunnelNetwork();
+        x.link(code(1, 5), 1, 5);
+        x.link(code(1, 2), 1, 5);
+        x.link(code(2, 5), 1, 5);
+        x.link(code(1, 3), 2, 5);
+        x.link(code(3, 5), 2, 5);
+        x.want(0, code(0, 5), 5, terms(2, 0));
+        x.want(1, code(0, 5), 5, terms(2, 0));
+        x.want(2, code(0, 5), 5, terms(1, 0));
+        // Had 0 and 1 been placed first, 2 would drive 0 from the best way, and 0 would be left the third one.
+        due("all at once", x.link(code(0, 1), 1, 100), 3);
+        duePath("the urgent one first", x, 2, "015");
+        duePath("then the lesser number", x, 0, "0125");
+        duePath("then the greater number", x, 1, "0135");
     }
 
     private static void settlingGoesOnAfterPlacing() {
