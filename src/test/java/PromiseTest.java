@@ -469,7 +469,6 @@ public final class PromiseTest {
         due("quote none", x.quote(1, 1, 0), NONE);
         x.link(code(0, 1), 20, 100);
         x.link(code(1, 2), 20, 50);
-        x.link(code(0, 2), 41, 9);
         x.link(code(2, 3), 20, 100);
         x.link(code(3, 4), 20, 100);
         x.link(code(4, 5), 20, 100);
