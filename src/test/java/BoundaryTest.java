@@ -334,6 +334,10 @@ public final class BoundaryTest {
             "link 0-5 1 0 = 0", "link 4-5 1 0 = 0", "link 1-4 1 0 = 0", "link 1-3 1 0 = 0", "link 2-3 1 0 = 0",
             "bridge 0-5 = 1", "bridge 1-4 = 1", "link 0-2 1 0 = 0", "bridge 0-5 = 0", "bridge 4-5 = 0", "bridge 1-4 = 0",
             "bridge 1-3 = 0", "bridge 2-3 = 0", "bridge 0-2 = 0");
+        // Here the codes on the way from 2 to 3 go down from link to link.
+        Script.sentence("1 if a link is up, and there is no way between its nodes over other links that are up; else 0.",
+            "link 2-3 1 0 = 0", "link 2-5 1 0 = 0", "link 1-5 1 0 = 0", "link 1-4 1 0 = 0", "link 0-4 1 0 = 0",
+            "bridge 2-3 = 1", "link 0-3 1 0 = 0", "bridge 2-3 = 0");
         Script.sentence("code is not good: BAD; the link is not there: NONE [bridge]",
             "link 0-1 1 1 = 0", "bridge -1 = BAD", "bridge 0-0 = BAD", "bridge 1-0 = BAD", "bridge 5-5 = BAD",
             "bridge 36 = BAD", "bridge 37 = BAD", "bridge 0-2 = NONE", "unlink 0-1 = 0", "bridge 0-1 = NONE");

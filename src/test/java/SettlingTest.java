@@ -72,11 +72,11 @@ public final class SettlingTest {
             "link 4-5 1 10 = 0", "link 3-4 9 10 = 0", "want 0 5-3 4 p2 = 1", "want 1 5-4 6 p1 = 1",
             "want 2 4-3 6 p3 = 1", "link 2-4 1 10 = 3", "link 2-3 1 10 = 3", "change 2-4 2 1 = 3",
             "want 3 5-3 4 p0a1 = 1", "path 3 = 5-4-3", "state 0 = 1", "path 1 = 5-4", "path 2 = 4-2-3");
-        // The greater overload does not count: 0-1 lacks 1, 1-2 lacks 9.
+        // The greater overload does not count: 0-1 lacks 1 and 1-2 lacks 2, but 0 goes first again.
         Script.sentence("the one of these links with the least code",
-            "link 0-1 1 10 = 0", "link 1-2 9 10 = 0", "want 0 0-2 1 p2 = 1", "want 1 0-1 1 p1 = 1",
-            "want 2 1-2 9 p3 = 1", "link 1-3 1 10 = 3", "link 2-3 1 10 = 3", "change 1-3 2 1 = 3",
-            "want 3 0-2 9 p0a1 = 1", "state 0 = 1", "path 1 = 0-1", "path 2 = 1-3-2");
+            "link 0-1 1 10 = 0", "link 1-2 9 10 = 0", "want 0 0-2 5 p2 = 1", "want 1 0-1 4 p1 = 1",
+            "want 2 1-2 5 p3 = 1", "link 1-3 1 10 = 3", "link 2-3 1 10 = 3", "change 1-3 2 1 = 3",
+            "want 3 0-2 2 p0a1 = 1", "path 3 = 0-1-2", "state 0 = 1", "path 1 = 0-1", "path 2 = 1-2");
     }
 
     private static void greatestPriority() {
@@ -103,6 +103,10 @@ public final class SettlingTest {
         Script.sentence(GREATEST_NUMBER,
             "link 0-1 9 10 = 0", "want 2 0-1 5 p2 = 1", "want 0 0-1 5 p2 = 1", "link 0-2 1 5 = 2", "link 1-2 1 5 = 2",
             "want 4 0-1 5 p1a1 = 1", "path 4 = 0-2-1", "change 0-1 1 9 = 2", "path 0 = 0-1", "state 2 = 1");
+        // Only that one: had 0 become idle too, it would be on the better way now.
+        Script.sentence(GREATEST_NUMBER,
+            "link 0-1 9 10 = 0", "want 0 0-1 5 p2 = 1", "want 1 0-1 5 p2 = 1", "link 0-2 1 10 = 2", "link 1-2 1 10 = 2",
+            "change 0-1 1 9 = 2", "path 0 = 0-1", "path 1 = 0-2-1");
     }
 
     private static void asLongAs() {
@@ -173,6 +177,10 @@ public final class SettlingTest {
             "link 0-1 1 5 = 0", "link 0-2 2 5 = 0", "link 1-2 2 5 = 0", "link 0-3 3 5 = 0", "link 1-3 3 5 = 0",
             "want 0 0-1 5 p3 = 1", "want 1 0-1 5 p2 = 1", "path 0 = 0-2-1", "want 2 0-1 5 p1 = 1", "path 1 = 0-2-1",
             "path 0 = 0-3-1", "want 3 0-1 5 p0 = 1", "path 3 = 0-1", "path 2 = 0-2-1", "path 1 = 0-3-1", "state 0 = 1");
+        // 1 drives out 0, which is looked at before 7 and takes from it the way round.
+        Script.sentence("If there was one, 2 and 3 are done again.",
+            "link 0-1 1 5 = 0", "link 0-2 3 5 = 0", "link 1-2 3 5 = 0", "want 0 0-1 5 p2 = 1", "want 1 0-5 5 p1 = 0",
+            "want 7 5-2 5 p2 = 0", "link 1-5 1 100 = 2", "path 1 = 0-1-5", "path 0 = 0-2-1", "state 7 = 1");
         Script.sentence("If there was one, 2 and 3 are done again.",
             "want 0 0-1 1 p0 = 0", "want 1 0-1 1 p1 = 0", "want 2 0-1 1 p2 = 0", "want 3 0-1 1 p3 = 0",
             "want 4 0-1 1 p0 = 0", "want 5 0-1 1 p1 = 0", "want 6 0-1 1 p2 = 0", "want 7 0-1 1 p3 = 0",
