@@ -39,6 +39,7 @@ public final class LanguageTest {
         for (Token token : tokens) {
             must(!BANNED_WORDS.contains(token.text()), "line " + token.line() + " has no " + token.text());
         }
+        arrayLengths(tokens);
         Map<String, List<Token>> bodies = bodies(tokens);
         must(bodies.containsKey("groups") && bodies.containsKey("TunnelNetwork"), "the methods were found");
         Map<String, Set<String>> calls = new TreeMap<>();
@@ -99,6 +100,18 @@ public final class LanguageTest {
         return bodies;
     }
 
+    private static void arrayLengths(List<Token> tokens) {
+        for (int i = 0; i < tokens.size(); i++) {
+            if (tokens.get(i).text().equals("new")) {
+                String line = "line " + tokens.get(i).line();
+                must(NUMBER_TYPES.contains(tokens.get(i + 1).text()), line + " makes an array of numbers");
+                must(tokens.get(i + 2).text().equals("[") && tokens.get(i + 3).text().matches("[1-9]\\d*|[A-Z_]+")
+                    && tokens.get(i + 4).text().equals("]") && !tokens.get(i + 5).text().equals("["),
+                    line + " has one length, a literal or a constant");
+            }
+        }
+    }
+
     private static void arraysMade(String name, List<Token> body) {
         int depth = 0;
         for (int i = 0; i < body.size(); i++) {
@@ -106,7 +119,6 @@ public final class LanguageTest {
             depth += text.equals("{") ? 1 : text.equals("}") ? -1 : 0;
             if (text.equals("new")) {
                 must(name.equals("TunnelNetwork") && depth == 1, name + " makes no array");
-                must(NUMBER_TYPES.contains(body.get(i + 1).text()), "arrays hold numbers");
             }
         }
     }
