@@ -32,11 +32,12 @@ public final class TunnelNetwork {
 
     // A path has at most 5 links, so a unit of cost outweighs every number of links.
     private static final int COST_UNIT = 8;
-    // Above the rank of every path: 5 links of cost 20.
+    // Above the rank of every path (5 links of cost 20) and above all rooms together.
     private static final int FAR = 1000000;
     // A placed tunnel only ever drives out less urgent ones, so the numbers of placed tunnels
-    // by priority grow in dictionary order: fewer than 9 to the 4th placements in a settling.
-    private static final int MOST_ROUNDS = 10000;
+    // by priority grow in dictionary order. There are 495 such numbers for at most 8 tunnels,
+    // so a settling places fewer than that.
+    private static final int MOST_ROUNDS = 1000000;
 
     private final boolean[] linkThere = new boolean[CODES];
     private final boolean[] linkUp = new boolean[CODES];
@@ -277,8 +278,8 @@ public final class TunnelNetwork {
             return BAD;
         }
         openRooms(terms / COLOUR_SETS, terms % COLOUR_SETS, NO_TUNNEL);
-        // The greatest flow is the least room over which any set of nodes
-        // with the first end and without the second one is left.
+        // No more can flow than the links out of any set of nodes that has the first end
+        // and not the second one let pass, and as much as the least of these can flow.
         int least = FAR;
         for (int set = 0; set < NODE_SETS; set++) {
             if (hasMember(set, ends / NODES) && !hasMember(set, ends % NODES)) {
